@@ -6,12 +6,22 @@ final class Checks {
 
     void due(String call, long got, long want) {
         asked++;
-        if (got == want) {
-            return;
+        if (got != want) {
+            tell(call + " answered " + got + ", due is " + want);
         }
+    }
+
+    void due(String what, String got, String want) {
+        asked++;
+        if (!got.equals(want)) {
+            tell(what + ":\n" + got + "\ndue is:\n" + want);
+        }
+    }
+
+    private void tell(String fault) {
         wrong++;
         if (wrong <= MOST_PRINTED) {
-            System.out.println(call + " answered " + got + ", due is " + want);
+            System.out.println(fault);
         }
     }
 

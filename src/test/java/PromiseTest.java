@@ -1,14 +1,5 @@
 /** One method a promise: ordinary inputs, the edges that the document names, and wrong inputs, worked out by hand. */
-public final class PromiseTest {
-    private static final int BAD_ARG = -1;
-    private static final int FULL = -2;
-    private static final int NONE = -4;
-    private static final int LEAST = Integer.MIN_VALUE;
-    private static final int GREATEST = Integer.MAX_VALUE;
-    private static final int[] NO_SLOTS = {-1, 6, 7, 16, LEAST, GREATEST};
-    private static final int[] NO_PATTERNS = {0, -1, -4, 2, 3, 8, 15, 32, 63, 128, 255, 512, 1023, 2048, 4095, 8192,
-        16384, 32767, 1 << 16, 1 << 28, 1 << 30, LEAST, LEAST + 1, GREATEST};
-
+public final class PromiseTest extends Given {
     private static final Checks CHECKS = new Checks();
 
     public static void main(String[] args) {
@@ -37,30 +28,6 @@ public final class PromiseTest {
 
     private static void due(String call, int got, int want) {
         CHECKS.due(call, got, want);
-    }
-
-    private static void write(EndingIndex x, String letters) {
-        for (char c : letters.toCharArray()) {
-            x.draft(c - '0');
-        }
-    }
-
-    /** An object with these texts in the slots from 0 on; "" leaves a slot empty. */
-    private static EndingIndex with(String... texts) {
-        EndingIndex x = new EndingIndex();
-        for (int s = 0; s < texts.length; s++) {
-            write(x, texts[s]);
-            x.add(s);
-        }
-        return x;
-    }
-
-    private static int pattern(String letters) {
-        int p = 1;
-        for (char c : letters.toCharArray()) {
-            p = p * 4 + (c - '0');
-        }
-        return p;
     }
 
     private static void newObject() {
