@@ -227,9 +227,8 @@ public final class EndingIndex {
     }
 
     private int endingLength(int number) {
-        int s = slotOf(number);
-        int i = placeOf(number);
-        return lengths[s] - i;
+        // Not by slotOf and placeOf: from add on, this is the sixth call deep, the most there may be.
+        return lengths[number / STRIDE] - number % STRIDE;
     }
 
     private void moveDraftTo(int s) {
@@ -241,7 +240,8 @@ public final class EndingIndex {
     }
 
     private void rankEndingsOf(int s) {
-        for (int i = 0; i <= lengths[s]; i++) {
+        int last = lengths[s];
+        for (int i = 0; i <= last; i++) {
             rankEnding(STRIDE * s + i);
         }
     }
